@@ -13,7 +13,7 @@ public final class SurdDesk {
     private static final long HAS_ENDED = 1L << 62;
     private static final long NO_PARTIAL = (1L << 62) + 1;
     private static final long NOT_TOLD = (1L << 62) + 2;
-    private static final long NO_DOUBLE_OF_NONE = 1L;
+    private static final long NO_DOUBLE = 1L;
     private static final long NOT_A_NUMBER = 9221120237041090560L;
 
     private final Sum[] registers = new Sum[REGISTERS];
@@ -37,7 +37,8 @@ public final class SurdDesk {
         if (!isRegister(k) || d == 0) {
             return REFUSED;
         }
-        long divisor = Whole.divisorBelowZero(n, d);
+        // Below 0 every size is a long, also that of the least one.
+        long divisor = -Whole.commonDivisor(n, d);
         long top = Whole.belowZero(n) / divisor;
         long bottom = Whole.belowZero(d) / divisor;
         if (Whole.isTooGreat(top) || Whole.isTooGreat(bottom)) {
@@ -143,12 +144,16 @@ public final class SurdDesk {
             return NO_PARTIAL;
         }
         Sum sum = registers[i];
-        return sum.isFraction() ? partialOfFraction(sum.top(), sum.bottom(), n) : partialOfEnds(sum, n);
+        if (sum.isFraction()) {
+            return partialOfFraction(sum.top(), sum.bottom(), n);
+        }
+        ends.find(sum);
+        return partialOfEnds(sum.low, sum.high, n);
     }
 
     public long nearest(int i) {
         if (!isRegister(i)) {
-            return NO_DOUBLE_OF_NONE;
+            return NO_DOUBLE;
         }
         Sum sum = registers[i];
         if (sum.isFraction()) {
@@ -228,16 +233,15 @@ public final class SurdDesk {
         return whole;
     }
 
-    private long partialOfEnds(Sum sum, int n) {
-        ends.find(sum);
-        if (!Teller.haveSameWhole(sum.low, sum.high)) {
+    private long partialOfEnds(int[] low, int[] high, int n) {
+        if (!Teller.haveSameWhole(low, high)) {
             return NOT_TOLD;
         }
         if (n == 0) {
-            return Wide.whole(sum.low);
+            return Wide.whole(low);
         }
-        lowChain.begin(sum.low);
-        highChain.begin(sum.high);
+        lowChain.begin(low);
+        highChain.begin(high);
         for (int step = 1; step <= n; step++) {
             if (!lowChain.goOn() || !highChain.goOn() || !lowChain.agreesWith(highChain)) {
                 return NOT_TOLD;
@@ -260,12 +264,12 @@ public final class SurdDesk {
             return size < 0 || size > MOST;
         }
 
-        /** Sizes are taken below 0 where the least long may come, as it has no size above 0. */
         static long belowZero(long a) {
             return a > 0 ? -a : a;
         }
 
-        static long divisorBelowZero(long a, long b) {
+        /** Never 0. If it is 2^63, which no long holds, the least long stands for it. */
+        static long commonDivisor(long a, long b) {
             long upper = belowZero(a);
             long lower = belowZero(b);
             for (int step = 0; step < MOST_STEPS && lower != 0; step++) {
@@ -273,11 +277,7 @@ public final class SurdDesk {
                 upper = lower;
                 lower = rest;
             }
-            return upper;
-        }
-
-        static long commonDivisor(long a, long b) {
-            return -divisorBelowZero(a, b);
+            return upper == 0 ? 1 : -upper;
         }
 
         /** The greatest s whose s s divides m (1 for 0), for m up to 10^8. */
@@ -529,7 +529,8 @@ public final class SurdDesk {
             long upper = ((long) target[at + 1] << 2 * BITS) + ((long) target[at] << BITS)
                     + (at > 0 ? target[at - 1] : 0);
             long lower = ((long) row[top] << BITS) + (top > 0 ? row[top - 1] : 0);
-            return lower <= 0 ? 0 : (int) Math.min(upper / lower, MASK);
+            long digit = lower <= 0 ? 0 : upper / lower;
+            return digit > MASK ? MASK : (int) digit;
         }
 
         static void addSmall(int[] end, int what) {
@@ -876,6 +877,7 @@ public final class SurdDesk {
     /** OUT, and a draft of what it becomes if all of it can be told. */
     static final class Page {
         private static final int ROOM = 128;
+        private static final int MOST_BEFORE_POINT = 18;
 
         private byte[] kept = new byte[ROOM];
         private byte[] draft = new byte[ROOM];
@@ -932,7 +934,7 @@ public final class SurdDesk {
                 put('-');
             }
             long unit = 1;
-            while (unit <= whole / 10) {
+            for (int k = 0; k < MOST_BEFORE_POINT && unit <= whole / 10; k++) {
                 unit *= 10;
             }
             for (long left = unit; left > 0; left /= 10) {

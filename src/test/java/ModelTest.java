@@ -12,6 +12,8 @@ public final class ModelTest {
     private static final long[] PELL = {5, 7, 12, 17, 29, 41, 169, 239, 5741, 8119, 195025, 275807, 6625109, 9369319,
         225058681, 318281039, 543339720, 768398401};
 
+    private static final long[] SMALL_PRIMES = {2, 3, 5, 7, 11, 13, 17, 19};
+
     private final Random random;
     private final Check check;
     private final List<String> calls = new ArrayList<>();
@@ -27,6 +29,7 @@ public final class ModelTest {
         Check check = new Check();
         for (int run = 0; run < RUNS && !check.isWrong(); run++) {
             ModelTest test = new ModelTest(run, check);
+            test.prepare(run % 4);
             for (int call = 0; call < CALLS && !check.isWrong(); call++) {
                 test.step();
             }
@@ -36,6 +39,43 @@ public final class ModelTest {
             }
         }
         check.end("ModelTest");
+    }
+
+    /** Numbers that runs alone would seldom meet. */
+    private void prepare(int kind) {
+        if (kind == 1) {
+            for (int k = 0; k < 4; k++) {
+                multiple(k, PELL[random.nextInt(PELL.length)], 1, 2);
+            }
+        } else if (kind == 2) {
+            for (int k = 0; k < 8; k++) {
+                multiple(1, random.nextInt(2000) - 1000, 1 + random.nextInt(9), SMALL_PRIMES[k]);
+                reckon(random.nextInt(2), 0, 0, 1);
+            }
+        } else if (kind == 3) {
+            nearZero();
+        }
+    }
+
+    private void multiple(int k, long n, long d, long r) {
+        load(7, r, 1);
+        tell("root(7, 7)", desk.root(7, 7), model.root(7, 7));
+        load(k, n, d);
+        reckon(2, k, k, 7);
+    }
+
+    /** (577 - 408 root 2) (362 - 209 root 3) (2889 - 1292 root 5), of eight terms, and parts of it. */
+    private void nearZero() {
+        long[][] factors = {{577, 408, 2}, {362, 209, 3}, {2889, 1292, 5}};
+        load(0, 1, 1);
+        for (long[] f : factors) {
+            multiple(1, f[1], 1, f[2]);
+            load(2, f[0], 1);
+            reckon(1, 2, 2, 1);
+            reckon(2, 0, 0, 2);
+        }
+        load(1, 1, 999_999_000L + random.nextInt(1000));
+        reckon(2, 1, 0, 1);
     }
 
     private int register() {
@@ -98,7 +138,10 @@ public final class ModelTest {
 
     private void reckon() {
         int op = random.nextInt(40) == 0 ? random.nextInt(7) - 2 : random.nextInt(3);
-        int k = register(), i = register(), j = register();
+        reckon(op, register(), register(), register());
+    }
+
+    private void reckon(int op, int k, int i, int j) {
         tell("reckon(" + op + ", " + k + ", " + i + ", " + j + ")", desk.reckon(op, k, i, j), model.reckon(op, k, i, j));
     }
 
