@@ -24,6 +24,7 @@ public final class EndsTest {
             test.look(test.sum());
         }
         test.greatest();
+        test.carries();
         test.check.end("EndsTest");
     }
 
@@ -113,5 +114,14 @@ public final class EndsTest {
         }
         look(above);
         look(below);
+    }
+
+    /** No number that fits has ENDS so near to 0, but a carry must reach the sign. */
+    private void carries() {
+        int[] end = new int[SurdDesk.Wide.LENGTH];
+        SurdDesk.Wide.addSmall(end, -3);
+        check.due("0 - 3", value(end).equals(BigInteger.valueOf(-3)), true);
+        SurdDesk.Wide.addSmall(end, 8);
+        check.due("-3 + 8", value(end).equals(BigInteger.valueOf(5)), true);
     }
 }

@@ -185,6 +185,10 @@ public final class PromiseTest {
         loadRoot(1, 10, 1);
         due("a common divisor of both r", x.reckon(2, 0, 0, 1), 1);
         is(0, "2/1*15");
+        loadRoot(1, 3, 2);
+        is(1, "1/2*6");
+        due("a divisor that r and both d have", x.reckon(2, 1, 1, 1), 1);
+        is(1, "3/2*1");
         for (int k : OTHERS) {
             due("reckon", x.reckon(0, k, 0, 0), SurdDesk.REFUSED);
             due("reckon", x.reckon(1, 0, k, 0), SurdDesk.REFUSED);
