@@ -22,6 +22,10 @@ final class Check {
         due(call + " (\"" + got + "\", due is \"" + want + "\")", got.equals(want) ? 1L : 0L, 1L);
     }
 
+    long asked() {
+        return asked;
+    }
+
     boolean isWrong() {
         return wrong != 0;
     }

@@ -1,13 +1,7 @@
 /** Each promise by examples whose answers were found by hand or by whole-number roots elsewhere. */
-public final class PromiseTest {
-    private static final long TWO_62 = 1L << 62;
-    private static final long BILLION = 1_000_000_000L;
-    private static final int[] OTHERS = {-1, 8, 9, -8, 256, Integer.MAX_VALUE, Integer.MIN_VALUE};
+public final class PromiseTest extends Bench {
     private static final String ROOT_2 =
         "1.41421356237309504880168872420969807856967187537694807317667973799073247846210703";
-
-    private final Check check = new Check();
-    private SurdDesk x = new SurdDesk();
 
     public static void main(String[] args) {
         PromiseTest test = new PromiseTest();
@@ -29,45 +23,6 @@ public final class PromiseTest {
         test.promise14();
         test.promise15();
         test.check.end("PromiseTest");
-    }
-
-    /** Terms as "n/d*r", by their order. */
-    private String number(int i) {
-        StringBuilder found = new StringBuilder();
-        for (int k = 0; k < x.terms(i); k++) {
-            found.append(k > 0 ? " " : "");
-            found.append(x.term(i, k, 0)).append('/').append(x.term(i, k, 1)).append('*').append(x.term(i, k, 2));
-        }
-        return found.toString();
-    }
-
-    private String out() {
-        StringBuilder found = new StringBuilder();
-        for (int k = 0; k < x.octet(-1); k++) {
-            found.append((char) x.octet(k));
-        }
-        return found.toString();
-    }
-
-    private void is(int i, String due) {
-        check.due("register " + i, number(i), due);
-    }
-
-    private void due(String call, long got, long want) {
-        check.due(call, got, want);
-    }
-
-    private void loadRoot(int k, long n, long d) {
-        due("load", x.load(k, n, d), 0);
-        due("root", x.root(k, k), 0);
-    }
-
-    /** Adds n / d times the root of r to register k, by way of registers 6 and 7. */
-    private void plus(int k, long n, long d, long r) {
-        loadRoot(7, r, 1);
-        x.load(6, n, d);
-        x.reckon(2, 7, 7, 6);
-        due("terms after an addition", x.reckon(0, k, k, 7) > 0 ? 1 : 0, 1);
     }
 
     private void promise1() {
@@ -372,11 +327,6 @@ public final class PromiseTest {
         for (int k : OTHERS) {
             due("floor", x.floor(k), TWO_62);
         }
-    }
-
-    private void written(int i, int places, String due) {
-        due("write " + due, x.write(i, places), due.length());
-        check.due("OUT", out(), due);
     }
 
     private void promise8() {

@@ -1,4 +1,3 @@
-import java.lang.reflect.Field;
 import java.math.BigInteger;
 import java.util.Random;
 
@@ -14,13 +13,9 @@ public final class UnsureTest {
     private final Check check = new Check();
     private final SurdDesk desk = new SurdDesk();
     private final Model model = new Model();
-    private final SurdDesk.Sum[] registers;
     private int unsure;
 
-    private UnsureTest() throws ReflectiveOperationException {
-        Field field = SurdDesk.class.getDeclaredField("registers");
-        field.setAccessible(true);
-        registers = (SurdDesk.Sum[]) field.get(desk);
+    private UnsureTest() {
         for (int k = 0; k < 2; k++) {
             desk.load(k, 2 + k, 1);
             desk.root(k, k);
@@ -31,7 +26,7 @@ public final class UnsureTest {
         model.load(2, 5, 2);
     }
 
-    public static void main(String[] args) throws ReflectiveOperationException {
+    public static void main(String[] args) {
         UnsureTest test = new UnsureTest();
         for (int k = 0; k < NEAR_ZERO.length; k++) {
             NEAR_ZERO[k] = BigInteger.ONE.shiftLeft(k);
@@ -47,17 +42,8 @@ public final class UnsureTest {
     }
 
     private void plant(int k, BigInteger low, BigInteger high) {
-        spread(low, registers[k].low);
-        spread(high, registers[k].high);
-        registers[k].endsAreKnown = true;
+        Bench.plant(desk, k, low, high);
         model.planted[k] = new BigInteger[] {low, high};
-    }
-
-    private static void spread(BigInteger value, int[] row) {
-        for (int k = 0; k < row.length; k++) {
-            int digit = value.shiftRight(16 * k).intValue();
-            row[k] = k == row.length - 1 ? digit : digit & 0xFFFF;
-        }
     }
 
     private void plantAt(int k, BigInteger middle) {
