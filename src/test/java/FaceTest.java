@@ -5,7 +5,9 @@ import java.lang.reflect.Method;
 import java.lang.reflect.Modifier;
 import java.nio.file.Files;
 import java.nio.file.Path;
+import java.util.Map;
 import java.util.Set;
+import java.util.TreeMap;
 import java.util.TreeSet;
 import java.util.regex.Matcher;
 import java.util.regex.Pattern;
@@ -16,7 +18,8 @@ public final class FaceTest {
         "int divide(int,int,int)", "int compare(int,int)", "long floor(int)", "int write(int,int)", "int octet(int)",
         "long partial(int,int)", "long nearest(int)", "long between(int,int)", "int term(int,int,int)", "int terms(int)",
         "boolean same(int,int)"};
-    private static final String[] CONSTANTS = {"REFUSED", "NONE", "FULL", "UNSURE"};
+    private static final String CONSTANTS = "{FULL=-3, NONE=-2, REFUSED=-1, UNSURE=-4}";
+    private static final int CONSTANT = Modifier.PUBLIC | Modifier.STATIC | Modifier.FINAL;
     private static final String[] LEFT_OUT = {"\\bthrow\\b", "\\btry\\b", "\\bcatch\\b", "\\bsynchronized\\b",
         "\\bassert\\b", "->", "::", "\\bpackage\\b", "\\bBigInteger\\b", "\\bSystem\\.(?!arraycopy)", "Exact\\b",
         "\\bArrays\\.(?!fill|copyOf|copyOfRange|util)", "\\b(Integer|Long)\\.[A-Z]", "\\bMath\\.(?!abs|min|max|floorDiv|floorMod)",
@@ -24,9 +27,10 @@ public final class FaceTest {
 
     private final Check check = new Check();
 
-    public static void main(String[] args) throws IOException {
+    public static void main(String[] args) throws IOException, IllegalAccessException {
         FaceTest test = new FaceTest();
         test.face();
+        test.constants();
         test.inside();
         test.words();
         test.check.end("FaceTest");
@@ -53,17 +57,23 @@ public final class FaceTest {
             }
         }
         check.due("methods", methods.toString(), new TreeSet<>(Set.of(METHODS)).toString());
-        Set<String> fields = new TreeSet<>();
-        for (Field f : SurdDesk.class.getDeclaredFields()) {
-            if (!isPrivate(f.getModifiers())) {
-                fields.add(f.getName());
-            }
-        }
-        check.due("constants", fields.toString(), new TreeSet<>(Set.of(CONSTANTS)).toString());
         Constructor<?>[] constructors = SurdDesk.class.getDeclaredConstructors();
         check.due("constructors", constructors.length, 1);
         check.due("its parameters", constructors[0].getParameterCount(), 0);
+        check.due("it is public", constructors[0].getModifiers() == Modifier.PUBLIC, true);
         check.due("public final", SurdDesk.class.getModifiers() == (Modifier.PUBLIC | Modifier.FINAL), true);
+        check.due("without a package", SurdDesk.class.getPackageName(), "");
+    }
+
+    private void constants() throws IllegalAccessException {
+        Map<String, Integer> found = new TreeMap<>();
+        for (Field f : SurdDesk.class.getDeclaredFields()) {
+            if (!isPrivate(f.getModifiers())) {
+                check.due(f + " is a constant", f.getModifiers() == CONSTANT && f.getType() == int.class, true);
+                found.put(f.getName(), f.getInt(null));
+            }
+        }
+        check.due("constants", found.toString(), CONSTANTS);
     }
 
     private void inside() {
@@ -71,18 +81,14 @@ public final class FaceTest {
         for (String method : METHODS) {
             face.add(method.substring(method.indexOf(' ') + 1, method.indexOf('(')));
         }
-        Class<?>[] classes = SurdDesk.class.getDeclaredClasses();
-        check.due("at most twelve classes", classes.length < 12, true);
-        for (Class<?> c : classes) {
-            check.due(c + " is static", Modifier.isStatic(c.getModifiers()), true);
+        for (Method m : SurdDesk.class.getDeclaredMethods()) {
+            check.due(m + " bears no public name", isPrivate(m.getModifiers()) && face.contains(m.getName()), false);
+        }
+        for (Class<?> c : SurdDesk.class.getDeclaredClasses()) {
             check.due(c + " is not public", Modifier.isPublic(c.getModifiers()), false);
+            check.due(c + " is not protected", Modifier.isProtected(c.getModifiers()), false);
             for (Method m : c.getDeclaredMethods()) {
                 check.due(m + " bears no public name", face.contains(m.getName()), false);
-                check.due(m + " has at most seven parameters", m.getParameterCount() <= 7, true);
-            }
-            for (Field f : c.getDeclaredFields()) {
-                int modifiers = f.getModifiers();
-                check.due(f + " is no static state", Modifier.isStatic(modifiers) && !Modifier.isFinal(modifiers), false);
             }
         }
     }
