@@ -52,7 +52,7 @@ public final class ReadmeTest {
         Path file = folder.resolve("Example.java");
         Files.writeString(file, block("java", "class Example"));
         String classes = System.getProperty("java.class.path");
-        int failed = ToolProvider.getSystemJavaCompiler().run(null, null, null, "-encoding", "UTF-8", "-cp", classes,
+        int failed = ToolProvider.getSystemJavaCompiler().run(null, null, null, "-encoding", "US-ASCII", "-cp", classes,
             "-d", folder.toString(), file.toString());
         check.due("the program compiles", failed, 0);
         if (failed == 0) {
